@@ -137,6 +137,11 @@ public final class LayersTest {
         });
         x.undo();
         Checks.dueLayers("4: undone", x, 9, "s*20");
+        CrustBlocks full = Checks.loaded("0:i*1+i*2+i*3+i*4+i*5+i*6+i*7+s*8;");
+        Checks.due("4: of a full block", full.strip(1), 1);
+        Checks.dueLayers("4: a full block", full, 0, "i*1+i*2+i*3+i*4+i*5+i*6+i*7");
+        Checks.due("4: all of it", full.strip(0), 7);
+        Checks.due("4: none is left", full.count(6), 0);
     }
 
     private static void settling() {

@@ -6,6 +6,7 @@ public final class LookingTest {
         counting();
         highestTop();
         blocks();
+        blocksThatLostLayers();
         layers();
         accounts();
         densities();
@@ -43,6 +44,10 @@ public final class LookingTest {
         Checks.due("14: the smallest of several", x.count(10), 3);
         x.addLayer(9, 0, 0, 9, 51);
         Checks.due("14: the highest", x.count(10), 9);
+        CrustBlocks second = Checks.standing(Checks.row(1, 0, 9, 1));
+        Checks.due("14: block 1 is the highest", second.count(10), 1);
+        Checks.due("14: a block with one layer has layers", second.count(7), 1);
+        Checks.due("14: it is of ice", second.count(8), 1);
         CrustBlocks y = Checks.loaded("0:r24*3000;1:r24*3000;");
         y.removeLayer(0, 0);
         y.removeLayer(1, 0);
@@ -70,6 +75,18 @@ public final class LookingTest {
         for (int w : wrong) {
             Checks.due("15: what " + w, x.block(5, w), Checks.INVALID);
         }
+    }
+
+    /** What has been removed from the bottom of a block counts no more. */
+    private static void blocksThatLostLayers() {
+        CrustBlocks x = Checks.standing(Checks.row(2, 1, 22, 10), Checks.row(2, 0, 9, 100));
+        x.removeLayer(2, 1);
+        int[] due = {1, 220, 6, 0, 10, 10, 0};
+        for (int what = 0; what <= 6; what++) {
+            Checks.due("15: one layer is left, " + what, x.block(2, what), due[what]);
+        }
+        Checks.due("17: the sum of all", x.account(7), 220);
+        Checks.due("16: the removed one", x.layer(2, 1, 0), Checks.NONE);
     }
 
     private static void layers() {

@@ -124,6 +124,10 @@ public final class StepsTest {
         y.addLayer(0, 0, 0, 9, 1);
         y.run(1);
         Checks.dueLayers("7: low snow line", y, 0, "i*101");
+        y.addLayer(3, 0, 1, 22, 1);
+        y.set(1, 1);
+        y.run(1);
+        Checks.dueLayers("7: the least growth", y, 3, "i*1+s*1");
     }
 
     private static void iceThatIsJustMelted() {
@@ -262,6 +266,11 @@ public final class StepsTest {
         Checks.dueLayers("7: the rock under new sediment gets thinner", x, 1, "s*109+r30*905");
         Checks.dueLayers("7: sediment comes and goes", x, 2, "s*174");
         Checks.dueLayers("7: end of the chain", x, 3, "s*5");
+        x.run(1);
+        // The tops were 1348, 656, 128 and 4: x = 69 (y = 75), 52 and 12, each taken from the layer 0 of now.
+        Checks.dueLayers("7: the rock is thinner again", x, 0, "r24*1831");
+        Checks.dueLayers("7: now the sediment gets thinner", x, 1, "s*132+r30*905");
+        Checks.dueLayers("7: what comes from it", x, 2, "s*214");
         CrustBlocks y = eroding(100, Checks.row(0, 2, 24, 2000), Checks.row(1, 2, 30, 7), Checks.row(1, 2, 25, 993));
         y.run(1);
         // 1: d = 1000, but x = 7: the covered layer is gone, y = 210 / 22 = 9.

@@ -143,6 +143,10 @@ public final class TextTest {
         dueError("0:i*5++i*5;", 6);
         dueError("0:i*5;;", 6);
         dueError("0:i*5;x", 6);
+        dueError("\u0001", 0);
+        dueError("\u00ff", 0);
+        dueError("0:\u0001;", 2);
+        dueError("0:i*5;\u0001", 6);
         dueError("0:;1:i*5;2:s*6;3", 16);
         dueError("0:i*1;1:i*0;2:x", 10);
         dueError("0:i*1+i*1+i*1+i*1+i*1+i*1+i*1+i*1+i*1;", 34);
