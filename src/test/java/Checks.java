@@ -12,6 +12,7 @@ final class Checks {
 
     private static int wrong = 0;
     private static int made = 0;
+    private static String sentence = "";
 
     private Checks() {
     }
@@ -31,6 +32,30 @@ final class Checks {
         if (wrong != 0 || made == 0) {
             System.exit(1);
         }
+    }
+
+    /** A test of its own for a sentence of the document: what it tells begins with the sentence. */
+    static void sentence(String words, Runnable test) {
+        sentence = words;
+        int before = made;
+        try {
+            test.run();
+        } catch (RuntimeException thrown) {
+            wrong++;
+            System.out.println("\"" + words + "\": " + thrown);
+        }
+        if (made == before) {
+            wrong++;
+            System.out.println("\"" + words + "\": nothing was looked at");
+        }
+    }
+
+    static void is(String what, long got, long want) {
+        due("\"" + sentence + "\": " + what, got, want);
+    }
+
+    static void has(CrustBlocks x, int block, String want) {
+        dueLayers("\"" + sentence + "\"", x, block, want);
     }
 
     static void write(CrustBlocks x, String text) {
@@ -64,6 +89,24 @@ final class Checks {
             }
         }
         return x;
+    }
+
+    /** Steps that make no ice and melt none. */
+    static CrustBlocks still(CrustBlocks x, int erosion) {
+        x.set(0, 9999);
+        x.set(1, 0);
+        x.set(2, 0);
+        x.set(3, erosion);
+        return x;
+    }
+
+    /** The text of a block with this many layers of rock, each of a thickness. */
+    static String rocks(int number, int thickness) {
+        StringBuilder told = new StringBuilder();
+        for (int n = 0; n < number; n++) {
+            told.append(n == 0 ? "" : "+").append("r24*").append(thickness);
+        }
+        return told.toString();
     }
 
     static int[] row(int block, int kind, int density, int thickness) {

@@ -28,19 +28,11 @@ public final class StepsTest {
         int[] first = {2000, 100, 100, 50, 40};
         CrustBlocks x = new CrustBlocks();
         for (int what = 0; what < 5; what++) {
+            settingOne(what, lowest[what], highest[what], first[what]);
             Checks.due("6: previous of " + what, x.set(what, lowest[what]), first[what]);
-            Checks.due("6: lowest of " + what, x.count(what + 1), lowest[what]);
-            Checks.due("6: lowest before " + what, x.set(what, highest[what]), lowest[what]);
-            Checks.due("6: highest of " + what, x.count(what + 1), highest[what]);
-            int setting = what;
-            Checks.dueUnchanged("6: out of range", x, () -> {
-                int[] wrong = {lowest[setting] - 1, highest[setting] + 1, Integer.MIN_VALUE, Integer.MAX_VALUE};
-                for (int w : wrong) {
-                    Checks.due("6: " + setting + " to " + w, x.set(setting, w), Checks.INVALID);
-                }
-            });
         }
         Checks.due("6: history", x.count(12), 5);
+        Checks.due("6: another value", x.set(4, 100), 1);
         Checks.due("6: the same value", x.set(4, 100), 100);
         x.undo();
         x.undo();
@@ -49,6 +41,20 @@ public final class StepsTest {
             int[] wrong = {-1, 5, 6, Integer.MIN_VALUE, Integer.MAX_VALUE};
             for (int w : wrong) {
                 Checks.due("6: setting " + w, x.set(w, 50), Checks.INVALID);
+            }
+        });
+    }
+
+    private static void settingOne(int what, int lowest, int highest, int first) {
+        CrustBlocks x = new CrustBlocks();
+        Checks.due("6: previous of " + what, x.set(what, lowest), first);
+        Checks.due("6: lowest of " + what, x.count(what + 1), lowest);
+        Checks.due("6: lowest before " + what, x.set(what, highest), lowest);
+        Checks.due("6: highest of " + what, x.count(what + 1), highest);
+        Checks.dueUnchanged("6: out of range", x, () -> {
+            int[] wrong = {lowest - 1, highest + 1, Integer.MIN_VALUE, Integer.MAX_VALUE};
+            for (int w : wrong) {
+                Checks.due("6: " + what + " to " + w, x.set(what, w), Checks.INVALID);
             }
         });
     }
