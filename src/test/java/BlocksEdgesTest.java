@@ -35,6 +35,7 @@ public final class BlocksEdgesTest {
         Checks.sentence("4 what was eroded, 5 sediment that was laid down (y * 22), 6 what was lost", BlocksEdgesTest::eroded);
         Checks.sentence("6 what was lost (4 less 5): all of it if there is no room", BlocksEdgesTest::allLost);
         Checks.sentence("The sum of the weights of all blocks is always 0 - 1 + 2 - 3 - 6", BlocksEdgesTest::sumOfAll);
+        Checks.sentence("The sum is always 0 - 1 + 2 - 3 - 6: also of great accounts", BlocksEdgesTest::sumBehindManyRestores);
         Checks.sentence("The pressure at a depth p, 0 to 99999", BlocksEdgesTest::depths);
         Checks.sentence("the weight of all that lies above this depth: of its layers, as far as they do",
             BlocksEdgesTest::layersAbove);
@@ -451,6 +452,21 @@ public final class BlocksEdgesTest {
         while (x.undo() >= 0) {
             dueSum(x, "undo");
         }
+    }
+
+    /** Accounts that leave the range of int wrap around, so that the sum holds in int all the same. */
+    private static void sumBehindManyRestores() {
+        CrustBlocks x = new CrustBlocks();
+        for (int n = 0; n < 80; n++) {
+            x.addLayer(n / 8, 0, ROCK, 32, 9999);
+        }
+        x.take(0);
+        for (int n = 0; n < 200; n++) {
+            x.restore(0);
+        }
+        Checks.is("added", x.account(0), (int) (201L * 80 * 32 * 9999));
+        Checks.is("removed", x.account(1), (int) (200L * 80 * 32 * 9999));
+        dueSum(x, "200 restores");
     }
 
     private static void dueSum(CrustBlocks x, String behind) {
