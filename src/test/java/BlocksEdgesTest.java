@@ -449,7 +449,8 @@ public final class BlocksEdgesTest {
         dueSum(x, "settle");
         x.addLayer(6, 0, ROCK, 24, 9999);
         dueSum(x, "addLayer");
-        while (x.undo() >= 0) {
+        for (int left = 4; left >= 0; left--) {
+            Checks.is("undo", x.undo(), left);
             dueSum(x, "undo");
         }
     }

@@ -14,6 +14,24 @@ final class Checks {
     private static int made = 0;
     private static String sentence = "";
 
+    // A call that does not end is a wrong answer too; a test that is right takes seconds.
+    private static final int LONGEST_SECONDS = 300;
+
+    static {
+        Thread watch = new Thread(() -> {
+            try {
+                Thread.sleep(1000L * LONGEST_SECONDS);
+            } catch (InterruptedException stopped) {
+                return;
+            }
+            System.out.println("no end behind " + LONGEST_SECONDS + " seconds: " + sentence);
+            System.out.flush();
+            Runtime.getRuntime().halt(1);
+        });
+        watch.setDaemon(true);
+        watch.start();
+    }
+
     private Checks() {
     }
 

@@ -75,8 +75,8 @@ public final class ErrorEdgesTest {
             x.run(50);
         }
         Checks.write(x, "4:i*6;");
-        while (x.append(32) > 0) {
-            continue;
+        for (int n = x.count(13); n < 140; n++) {
+            x.append(32);
         }
         return x;
     }
@@ -208,9 +208,10 @@ public final class ErrorEdgesTest {
         dueRefused("new", "undo", ILLEGAL, x -> x.undo());
         dueRefused("crowded", "restore 0", ILLEGAL, x -> x.restore(0));
         CrustBlocks x = rich();
-        while (x.count(12) > 0) {
+        for (int n = 0; n < 5; n++) {
             x.undo();
         }
+        Checks.is("states", x.count(12), 0);
         String before = seen(x);
         Checks.is("undo", x.undo(), ILLEGAL);
         Checks.dueSame("undo of an empty history alters nothing", seen(x), before);

@@ -813,7 +813,7 @@ public final class PromiseEdgesTest {
         x.set(0, -5000);
         x.set(1, 500);
         x.set(4, rate);
-        while (x.count(0) < steps) {
+        for (int made = 0; made < steps; made += 50) {
             x.run(50);
         }
         return x;

@@ -129,7 +129,7 @@ public final class ReasonsTest {
             }
         }
         for (int n = 0; n < ahead.length; n++) {
-            while (x.count(0) < ahead[n]) {
+            for (int made = n == 0 ? 0 : ahead[n - 1]; made < ahead[n]; made++) {
                 x.run(1);
             }
             for (int block = 0; block < 10; block++) {
